@@ -1,0 +1,45 @@
+/** Promise 1, and the constant. */
+public final class NewObjectTest {
+    private static final int[] SIDES = {Integer.MIN_VALUE, -1, 0, 1, 2, 47, 48, 49, 50, Integer.MAX_VALUE};
+    private static final int[] SIDES_DUE = {1, 1, 1, 1, 2, 47, 48, 48, 48, 48};
+
+    public static void main(String[] args) {
+        Due.is("NONE", PicturePacker.NONE, -1);
+        for (int i = 0; i < SIDES.length; i++) {
+            for (int j = 0; j < SIDES.length; j++) {
+                isNew(SIDES[i], SIDES[j], SIDES_DUE[i], SIDES_DUE[j]);
+            }
+        }
+        objectsAreApart();
+        Due.end();
+    }
+
+    private static void isNew(int width, int height, int widthDue, int heightDue) {
+        PicturePacker packer = new PicturePacker(width, height);
+        String name = "new (" + width + ", " + height + ") ";
+        Due.is(name + "count(4)", packer.count(4), widthDue);
+        Due.is(name + "count(5)", packer.count(5), heightDue);
+        for (int y = -1; y <= heightDue; y++) {
+            for (int x = -1; x <= widthDue; x++) {
+                boolean there = x >= 0 && x < widthDue && y >= 0 && y < heightDue;
+                Due.is(name + "pixel(" + x + ", " + y + ")", packer.pixel(x, y), there ? 0 : -1);
+            }
+        }
+        for (int what = 0; what < 4; what++) {
+            Due.is(name + "count(" + what + ")", packer.count(what), 0);
+        }
+        Due.is(name + "byteAt(0)", packer.byteAt(0), -1);
+        Due.is(name + "filter(0)", packer.filter(0), -1);
+    }
+
+    private static void objectsAreApart() {
+        PicturePacker one = new PicturePacker(2, 2);
+        PicturePacker other = new PicturePacker(2, 2);
+        one.set(0, 0, 5);
+        one.put();
+        Due.is("other pixel(0, 0)", other.pixel(0, 0), 0);
+        Due.is("other count(0)", other.count(0), 0);
+        Due.is("other byteAt(0)", other.byteAt(0), -1);
+        Due.is("other filter(0)", other.filter(0), -1);
+    }
+}
