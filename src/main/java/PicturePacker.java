@@ -7,6 +7,7 @@ public final class PicturePacker {
     private static final int LONGEST_SIDE = 48;
     private static final int[] SIGNATURE = {137, 80, 78, 71, 13, 10, 26, 10};
     private static final int[] HEADER_END = {8, 2, 0, 0, 0};
+    private static final int[] DATA_START = {120, 1};
     private static final int IHDR = 0x49484452;
     private static final int IDAT = 0x49444154;
     private static final int IEND = 0x49454E44;
@@ -54,7 +55,11 @@ public final class PicturePacker {
         file.restart();
         file.addAll(SIGNATURE);
         addHeader();
-        addData();
+        chunks.open(IDAT);
+        file.addAll(DATA_START);
+        packer.pack();
+        file.addNumber(rows.sum());
+        chunks.close();
         chunks.open(IEND);
         chunks.close();
         return file.size;
@@ -96,15 +101,6 @@ public final class PicturePacker {
         file.addNumber(picture.width);
         file.addNumber(picture.height);
         file.addAll(HEADER_END);
-        chunks.close();
-    }
-
-    private void addData() {
-        chunks.open(IDAT);
-        file.addByte(120);
-        file.addByte(1);
-        packer.pack();
-        file.addNumber(rows.sum());
         chunks.close();
     }
 
@@ -328,15 +324,15 @@ public final class PicturePacker {
             gathered |= bit << gatheredBits;
             gatheredBits++;
             if (gatheredBits == 8) {
-                endByte();
+                addByte(gathered);
+                gathered = 0;
+                gatheredBits = 0;
             }
         }
 
         void endByte() {
             if (gatheredBits > 0) {
-                addByte(gathered);
-                gathered = 0;
-                gatheredBits = 0;
+                addBitsLowestFirst(0, 8 - gatheredBits);
             }
         }
     }
@@ -389,7 +385,10 @@ public final class PicturePacker {
     /** Turns the rows' bytes into signs and counts them. */
     private static final class Packer {
         private static final int END = 256;
+        private static final int SHORTEST_RUN = 257;
+        private static final int LONGEST_RUN = 285;
         private static final int FIRST_BITS = 3;
+        private static final int MOST_MORE_BITS = 13;
 
         private final int[] bytes;
         private final Output out;
@@ -434,48 +433,33 @@ public final class PicturePacker {
             }
         }
 
+        /**
+         * The first lengths and distances of the signs are so chosen that, counted from the least
+         * one on, the bits more are the lowest bits of a number and the sign tells the rest.
+         */
         private void addRun(int length, int distance) {
             runs++;
             longest = Math.max(longest, length);
-            addLength(length);
-            addDistance(distance);
+            int number = length - RunFinder.LEAST;
+            int more = length == RunFinder.MOST ? 0 : moreBits(number, 8);
+            addRunSign(length == RunFinder.MOST ? LONGEST_RUN : SHORTEST_RUN + 4 * more + (number >> more));
+            out.addBitsLowestFirst(number, more);
+            addDistance(distance - 1);
         }
 
-        private void addLength(int length) {
-            if (length < 11) {
-                addRunSign(257 + length - 3);
-            } else if (length == RunFinder.MOST) {
-                addRunSign(285);
-            } else {
-                addLongLength(length);
-            }
+        private void addDistance(int number) {
+            int more = moreBits(number, 4);
+            out.addBitsHighestFirst(2 * more + (number >> more), 5);
+            out.addBitsLowestFirst(number, more);
         }
 
-        private void addLongLength(int length) {
-            int more = 1;
-            int first = 11;
-            while (more < 5 && length >= first + (4 << more)) {
-                first += 4 << more;
+        /** How many of a number's lowest bits must go until the rest is below a limit. */
+        private static int moreBits(int number, int limit) {
+            int more = 0;
+            while (more < MOST_MORE_BITS && number >> more >= limit) {
                 more++;
             }
-            addRunSign(265 + 4 * (more - 1) + (length - first >> more));
-            // Each sign's lengths begin at a multiple of 2^more behind the first of the four.
-            out.addBitsLowestFirst(length - first, more);
-        }
-
-        private void addDistance(int distance) {
-            if (distance < 5) {
-                out.addBitsHighestFirst(distance - 1, 5);
-                return;
-            }
-            int more = 1;
-            int first = 5;
-            while (more < 13 && distance >= first + (2 << more)) {
-                first += 2 << more;
-                more++;
-            }
-            out.addBitsHighestFirst(4 + 2 * (more - 1) + (distance - first >> more), 5);
-            out.addBitsLowestFirst(distance - first, more);
+            return more;
         }
 
         private void addRunSign(int sign) {
@@ -495,7 +479,7 @@ public final class PicturePacker {
      */
     private static final class RunFinder {
         static final int MOST = 258;
-        private static final int LEAST = 3;
+        static final int LEAST = 3;
         private static final int MARKS = 1024;
 
         private final int[] bytes;
