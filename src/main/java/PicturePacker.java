@@ -514,12 +514,19 @@ public final class PicturePacker {
                 if (place < 0 || place >= at) {
                     return;
                 }
-                int same = sameBytes(place, at, most);
-                if (same >= LEAST && same > length) {
-                    length = same;
-                    distance = at - place;
+                // Only a place that also has the byte behind the best run so far can have a longer one.
+                if (bytes[place + length] == bytes[at + length]) {
+                    keepIfLonger(place, at, most);
                 }
                 place = next[place];
+            }
+        }
+
+        private void keepIfLonger(int place, int at, int most) {
+            int same = sameBytes(place, at, most);
+            if (same >= LEAST && same > length) {
+                length = same;
+                distance = at - place;
             }
         }
 

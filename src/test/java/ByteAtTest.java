@@ -9,10 +9,31 @@ public final class ByteAtTest {
     private static final int[] OUTSIDE = {Integer.MIN_VALUE, -69, -1, 69, 70, 8000, Integer.MAX_VALUE};
 
     public static void main(String[] args) {
+        beforeTheFirstFile();
+        everyByte();
+        latestFileStays();
+        afterASecondFile();
+        shorterFileEndsEarlier();
+        Due.end();
+    }
+
+    /** "NONE if there is none": before the first put there is no byte, with pixels set or not. */
+    private static void beforeTheFirstFile() {
         PicturePacker packer = new PicturePacker(1, 1);
-        for (int k = -1; k < 100; k++) {
-            Due.is("byteAt(" + k + ") before a file", packer.byteAt(k), -1);
+        for (int paint = 0; paint < 2; paint++) {
+            for (int k = -1; k < 100; k++) {
+                Due.is("byteAt(" + k + ") before a file", packer.byteAt(k), -1);
+            }
+            for (int k : OUTSIDE) {
+                Due.is("byteAt(" + k + ") before a file", packer.byteAt(k), -1);
+            }
+            packer.set(0, 0, -1);
         }
+    }
+
+    /** "Byte k of the latest file; NONE if there is none": the first, the last and beyond both. */
+    private static void everyByte() {
+        PicturePacker packer = new PicturePacker(1, 1);
         packer.set(0, 0, 0x010203);
         int size = packer.put();
         Due.is("put()", size, 69);
@@ -22,11 +43,9 @@ public final class ByteAtTest {
         for (int k : OUTSIDE) {
             Due.is("byteAt(" + k + ")", packer.byteAt(k), -1);
         }
-        latestFileStays();
-        shorterFileEndsEarlier();
-        Due.end();
     }
 
+    /** "the latest file": what is painted behind a put is not in it. */
     private static void latestFileStays() {
         Pair pair = new Pair("stays", 6, 5);
         pair.file();
@@ -39,6 +58,22 @@ public final class ByteAtTest {
         pair.put();
     }
 
+    /** "the latest file", after a second put: the file of before is gone, whole. */
+    private static void afterASecondFile() {
+        PicturePacker packer = new PicturePacker(1, 1);
+        packer.set(0, 0, -1);
+        packer.put();
+        packer.set(0, 0, 0x010203);
+        Due.is("the second put()", packer.put(), 69);
+        for (int k = 0; k < ONE_PIXEL.length; k++) {
+            Due.is("byteAt(" + k + ") of the second file", packer.byteAt(k), ONE_PIXEL[k]);
+        }
+        for (int k : OUTSIDE) {
+            Due.is("byteAt(" + k + ") of the second file", packer.byteAt(k), -1);
+        }
+    }
+
+    /** The same where the second file is shorter: none is left of the longer one's end. */
     private static void shorterFileEndsEarlier() {
         Pair pair = new Pair("shorter", 10, 10);
         pair.noise(new Random(8), 0, 256);

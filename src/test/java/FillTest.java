@@ -5,11 +5,14 @@ public final class FillTest {
 
     public static void main(String[] args) {
         written();
+        farthestEnds();
+        refusedRows();
         everySpan();
         colours();
         Due.end();
     }
 
+    /** "how many; those that are not there are left out". */
     private static void written() {
         PicturePacker packer = new PicturePacker(7, 4);
         Due.is("the whole row", packer.fill(0, 0, 6, 1), 7);
@@ -30,6 +33,45 @@ public final class FillTest {
         }
     }
 
+    /** The same with the smallest and the largest ints as ends, in rows of one and of 48 pixels. */
+    private static void farthestEnds() {
+        int min = Integer.MIN_VALUE;
+        int max = Integer.MAX_VALUE;
+        for (int width : new int[] {1, 48}) {
+            PicturePacker packer = new PicturePacker(width, 48);
+            Due.is("from all to all", packer.fill(47, min, max, 1), width);
+            Due.is("from the first on", packer.fill(0, 0, max, 2), width);
+            Due.is("up to the last", packer.fill(1, min, width - 1, 3), width);
+            Due.is("the first alone", packer.fill(2, min, 0, 4), 1);
+            Due.is("the last alone", packer.fill(3, width - 1, max, 5), 1);
+            Due.is("all before", packer.fill(4, min, -1, 6), 0);
+            Due.is("all behind", packer.fill(4, width, max, 6), 0);
+            Due.is("the smallest alone", packer.fill(4, min, min, 6), 0);
+            Due.is("the largest alone", packer.fill(4, max, max, 6), 0);
+            Due.is("from behind to before", packer.fill(4, max, min, 6), 0);
+            int[] first = {2, 3, 4, width == 1 ? 5 : 0, 0};
+            int[] last = {2, 3, width == 1 ? 4 : 0, 5, 0};
+            for (int y = 0; y < 5; y++) {
+                Due.is("the first of row " + y, packer.pixel(0, y), first[y]);
+                Due.is("the last of row " + y, packer.pixel(width - 1, y), last[y]);
+            }
+            Due.is("the last row", packer.pixel(0, 47) + packer.pixel(width - 1, 47), 2);
+        }
+    }
+
+    /** The same where the row is not there: none is filled, and nothing has changed. */
+    private static void refusedRows() {
+        for (int height : new int[] {1, 48}) {
+            Pair pair = new Pair("no such row", 48, height);
+            for (int y : new int[] {Integer.MIN_VALUE, -48, -1, height, height + 1, Integer.MAX_VALUE}) {
+                Due.is("fill(" + y + ", all)", pair.real.fill(y, Integer.MIN_VALUE, Integer.MAX_VALUE, -1), 0);
+                Due.is("fill(" + y + ", 0, 47)", pair.real.fill(y, 0, 47, -1), 0);
+            }
+            pair.pixels();
+            pair.put();
+        }
+    }
+
     private static void everySpan() {
         int colour = 0;
         for (int y : EDGES) {
@@ -44,12 +86,17 @@ public final class FillTest {
         }
     }
 
+    /** A colour is that of set: its lowest 24 bits. */
     private static void colours() {
         Pair pair = new Pair("colours", 7, 6);
         pair.fill(0, 0, 6, -1);
         pair.fill(1, 0, 6, 0x1000000);
         pair.fill(2, 0, 6, Integer.MIN_VALUE + 5);
         pair.fill(3, 0, 6, Integer.MAX_VALUE);
+        pair.fill(4, 0, 6, Integer.MIN_VALUE);
         pair.pixels();
+        Due.is("the largest colour", pair.real.pixel(6, 3), 0xFFFFFF);
+        Due.is("a small colour", pair.real.pixel(6, 2), 5);
+        Due.is("the smallest colour", pair.real.pixel(6, 4), 0);
     }
 }

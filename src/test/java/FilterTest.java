@@ -6,6 +6,8 @@ public final class FilterTest {
 
     public static void main(String[] args) {
         written();
+        beforeTheFirstFile();
+        noneSuch();
         ties();
         latestFile();
         slopes();
@@ -15,6 +17,7 @@ public final class FilterTest {
         Due.end();
     }
 
+    /** "The filter of row y in the latest file". */
     private static void written() {
         PicturePacker packer = new PicturePacker(4, 5);
         packer.fill(0, 0, 3, 0x101010);
@@ -29,6 +32,35 @@ public final class FilterTest {
         }
         for (int y : OUTSIDE) {
             Due.is("filter(" + y + ")", packer.filter(y), -1);
+        }
+    }
+
+    /** "NONE if there is none": before the first put no row has a filter, with pixels set or not. */
+    private static void beforeTheFirstFile() {
+        PicturePacker packer = new PicturePacker(48, 48);
+        for (int paint = 0; paint < 2; paint++) {
+            for (int y = -1; y <= 48; y++) {
+                Due.is("filter(" + y + ") before a file", packer.filter(y), -1);
+            }
+            for (int y : OUTSIDE) {
+                Due.is("filter(" + y + ") before a file", packer.filter(y), -1);
+            }
+            packer.fill(0, 0, 47, -1);
+        }
+    }
+
+    /** "NONE if there is none": rows that are not there, near and far, in the lowest and highest pictures. */
+    private static void noneSuch() {
+        for (int height : new int[] {1, 2, 47, 48}) {
+            PicturePacker packer = new PicturePacker(3, height);
+            for (int file = 1; file <= 2; file++) {
+                packer.put();
+                for (int y : new int[] {Integer.MIN_VALUE, -48, -1, height, height + 1, 49, Integer.MAX_VALUE}) {
+                    Due.is("filter(" + y + ") of " + height + " rows", packer.filter(y), -1);
+                }
+                Due.is("filter(0) of " + height + " rows", packer.filter(0), 0);
+                Due.is("the last filter of " + height + " rows", packer.filter(height - 1), 0);
+            }
         }
     }
 
@@ -50,6 +82,7 @@ public final class FilterTest {
         Due.is("128 alone", half.filter(0), 0);
     }
 
+    /** "in the latest file": what is painted behind a put counts from the next one on. */
     private static void latestFile() {
         Pair pair = new Pair("latest", 5, 5);
         for (int y = -1; y <= 5; y++) {

@@ -10,10 +10,26 @@ public final class NewObjectTest {
                 isNew(SIDES[i], SIDES[j], SIDES_DUE[i], SIDES_DUE[j]);
             }
         }
+        widthAndHeightInTheFile();
         objectsAreApart();
         Due.end();
     }
 
+    /** "1 .. 48 each way (what is less or more is the nearest of these)", in the file too. */
+    private static void widthAndHeightInTheFile() {
+        for (int i = 0; i < SIDES.length; i++) {
+            for (int j = 0; j < SIDES.length; j++) {
+                PicturePacker packer = new PicturePacker(SIDES[i], SIDES[j]);
+                packer.put();
+                String name = "file of (" + SIDES[i] + ", " + SIDES[j] + ") ";
+                Due.is(name + "width", Reader.number(packer, 16), SIDES_DUE[i]);
+                Due.is(name + "height", Reader.number(packer, 20), SIDES_DUE[j]);
+                Due.is(name + "rows' bytes", Reader.rows(packer).length, (3 * SIDES_DUE[i] + 1) * SIDES_DUE[j]);
+            }
+        }
+    }
+
+    /** "1 .. 48 each way (what is less or more is the nearest of these), all of colour 0". */
     private static void isNew(int width, int height, int widthDue, int heightDue) {
         PicturePacker packer = new PicturePacker(width, height);
         String name = "new (" + width + ", " + height + ") ";

@@ -1,11 +1,8 @@
-import java.io.ByteArrayOutputStream;
 import java.util.Random;
-import java.util.zip.DataFormatException;
-import java.util.zip.Inflater;
 
 /** Promise 5: the files are as the plain packer's, and a reader gets the picture back. */
 public final class PutTest {
-    public static void main(String[] args) throws DataFormatException {
+    public static void main(String[] args) {
         evenPictures();
         noises();
         runsOfEveryLength();
@@ -23,7 +20,7 @@ public final class PutTest {
         Due.end();
     }
 
-    private static void evenPictures() throws DataFormatException {
+    private static void evenPictures() {
         int[] sides = {1, 2, 3, 17, 47, 48};
         int[] colours = {0, 1, 0x808080, 0xFFFFFF, 0x102030};
         for (int width : sides) {
@@ -39,7 +36,7 @@ public final class PutTest {
         }
     }
 
-    private static void noises() throws DataFormatException {
+    private static void noises() {
         Random random = new Random(5);
         int[] spans = {2, 3, 9, 40, 128, 200, 256};
         for (int span : spans) {
@@ -57,7 +54,7 @@ public final class PutTest {
     }
 
     /** A lone pixel in an even picture cuts the run of zeros at each length there is. */
-    private static void runsOfEveryLength() throws DataFormatException {
+    private static void runsOfEveryLength() {
         for (int place = 0; place < 96; place++) {
             for (int part = 0; part < 24; part += 8) {
                 Pair pair = new Pair("cut", 48, 2);
@@ -73,7 +70,7 @@ public final class PutTest {
     }
 
     /** Rows around 0 mostly take filter 0, so that a row set again far below is a far run. */
-    private static void farRuns() throws DataFormatException {
+    private static void farRuns() {
         Random random = new Random(6);
         for (int back = 1; back < 48; back++) {
             Pair pair = new Pair("rows again, back " + back, 48, 48);
@@ -87,7 +84,7 @@ public final class PutTest {
         }
     }
 
-    private static void latestPictureCounts() throws DataFormatException {
+    private static void latestPictureCounts() {
         Pair pair = new Pair("again", 20, 20);
         putAndRead(pair);
         pair.noise(new Random(7), 0, 256);
@@ -99,15 +96,10 @@ public final class PutTest {
         putAndRead(pair);
     }
 
-    private static void putAndRead(Pair pair) throws DataFormatException {
+    private static void putAndRead(Pair pair) {
         pair.put();
         PicturePacker real = pair.real;
-        int packed = real.count(0) - 57;
-        byte[] data = new byte[packed];
-        for (int i = 0; i < packed; i++) {
-            data[i] = (byte) real.byteAt(41 + i);
-        }
-        byte[] rows = unpacked(data);
+        int[] rows = Reader.rows(real);
         int width = real.count(4);
         Due.is("rows' bytes", rows.length, real.count(5) * (3 * width + 1));
         int[][] read = unfiltered(rows, width, real.count(5));
@@ -119,18 +111,7 @@ public final class PutTest {
         }
     }
 
-    private static byte[] unpacked(byte[] data) throws DataFormatException {
-        Inflater inflater = new Inflater();
-        inflater.setInput(data);
-        ByteArrayOutputStream rows = new ByteArrayOutputStream();
-        byte[] some = new byte[8000];
-        rows.write(some, 0, inflater.inflate(some));
-        Due.is("the packed bytes end where the data end", inflater.finished() && inflater.getRemaining() == 0, true);
-        inflater.end();
-        return rows.toByteArray();
-    }
-
-    private static int[][] unfiltered(byte[] rows, int width, int height) {
+    private static int[][] unfiltered(int[] rows, int width, int height) {
         int[][] parts = new int[height][3 * width];
         for (int y = 0; y < height; y++) {
             int start = y * (3 * width + 1);

@@ -4,12 +4,15 @@ public final class SetTest {
 
     public static void main(String[] args) {
         colours();
+        redHighest();
         corners();
         wrongPlaces();
+        refusedAtEveryEdge();
         onlyThatPixel();
         Due.end();
     }
 
+    /** "a colour, the lowest 24 bits of it". */
     private static void colours() {
         int[] given = {0, 1, 255, 256, 0x010203, 0xFFFFFF, 0x1000000, 0x7F123456, -1, Integer.MIN_VALUE,
             Integer.MIN_VALUE + 7, Integer.MAX_VALUE, 0xFF808080};
@@ -21,6 +24,19 @@ public final class SetTest {
         }
     }
 
+    /** "red highest": the bytes of a lone pixel stand in its row as they are. */
+    private static void redHighest() {
+        int[] colours = {0x010203, 0xFF000000, 0x7F010203, -1, Integer.MIN_VALUE, Integer.MAX_VALUE, 0xFFFE0100};
+        int[][] due = {{1, 2, 3}, {0, 0, 0}, {1, 2, 3}, {255, 255, 255}, {0, 0, 0}, {255, 255, 255}, {254, 1, 0}};
+        for (int i = 0; i < colours.length; i++) {
+            PicturePacker packer = new PicturePacker(1, 1);
+            packer.set(0, 0, colours[i]);
+            packer.put();
+            Paint.rowsAre("colour " + colours[i], packer, new int[] {0, due[i][0], due[i][1], due[i][2]});
+        }
+    }
+
+    /** "true": in the first and the last column and row. */
     private static void corners() {
         Pair pair = new Pair("corners", 48, 48);
         pair.set(0, 0, 1);
@@ -30,6 +46,7 @@ public final class SetTest {
         pair.pixels();
     }
 
+    /** "false if there is none such"; nothing has changed then. */
     private static void wrongPlaces() {
         Pair pair = new Pair("wrong places", 48, 48);
         for (int out : OUTSIDE) {
@@ -40,6 +57,32 @@ public final class SetTest {
             Due.is("set(" + out + " twice)", pair.real.set(out, out, 9), false);
         }
         pair.pixels();
+    }
+
+    /** The same in pictures of other sides, the smallest among them, with each colour at the edge. */
+    private static void refusedAtEveryEdge() {
+        int[][] sides = {{1, 1}, {1, 48}, {48, 1}, {7, 5}};
+        int[] colours = {Integer.MIN_VALUE, -1, 0xFFFFFF, Integer.MAX_VALUE};
+        for (int[] side : sides) {
+            Pair pair = new Pair("refused", side[0], side[1]);
+            int[] wrongX = {Integer.MIN_VALUE, -1, side[0], side[0] + 1, Integer.MAX_VALUE};
+            int[] wrongY = {Integer.MIN_VALUE, -1, side[1], side[1] + 1, Integer.MAX_VALUE};
+            for (int colour : colours) {
+                for (int x : wrongX) {
+                    for (int y : wrongY) {
+                        Due.is("set(" + x + ", " + y + ")", pair.real.set(x, y, colour), false);
+                    }
+                    Due.is("set(" + x + ", 0)", pair.real.set(x, 0, colour), false);
+                    Due.is("set(" + x + ", last)", pair.real.set(x, side[1] - 1, colour), false);
+                }
+                for (int y : wrongY) {
+                    Due.is("set(0, " + y + ")", pair.real.set(0, y, colour), false);
+                    Due.is("set(last, " + y + ")", pair.real.set(side[0] - 1, y, colour), false);
+                }
+            }
+            pair.pixels();
+            pair.put();
+        }
     }
 
     private static void onlyThatPixel() {
