@@ -79,6 +79,8 @@ public final class PackedTest {
     private static void atLeastThree() {
         Due.is("2 the same", new Reader(onePixel(0, 0, 1)).text(), "0 0 0 1");
         Due.is("3 the same", new Reader(onePixel(0, 0, 0)).text(), "0 3<1");
+        // 9 5 40 and 9 6 7 have the same mark in the class, though only the first byte is the same.
+        signs("1 again", 3, new int[] {0, 9, 5, 40, 0, 255, 0, 9, 6, 7}, "0 9 5 40 0 255 0 9 6 7");
         signs("2 again", 4, new int[] {0, 9, 5, 0, 0, 255, 9, 5, 1, 7}, "0 9 5 0 0 255 9 5 1 7 0 0 0");
     }
 
