@@ -19,7 +19,7 @@ public final class ByteAtTest {
 
     /** "NONE if there is none": before the first put there is no byte, with pixels set or not. */
     private static void beforeTheFirstFile() {
-        PicturePacker packer = new PicturePacker(1, 1);
+        Careful packer = new Careful(1, 1);
         for (int paint = 0; paint < 2; paint++) {
             for (int k = -1; k < 100; k++) {
                 Due.is("byteAt(" + k + ") before a file", packer.byteAt(k), -1);
@@ -33,7 +33,7 @@ public final class ByteAtTest {
 
     /** "Byte k of the latest file; NONE if there is none": the first, the last and beyond both. */
     private static void everyByte() {
-        PicturePacker packer = new PicturePacker(1, 1);
+        Careful packer = new Careful(1, 1);
         packer.set(0, 0, 0x010203);
         int size = packer.put();
         Due.is("put()", size, 69);
@@ -60,7 +60,7 @@ public final class ByteAtTest {
 
     /** "the latest file", after a second put: the file of before is gone, whole. */
     private static void afterASecondFile() {
-        PicturePacker packer = new PicturePacker(1, 1);
+        Careful packer = new Careful(1, 1);
         packer.set(0, 0, -1);
         packer.put();
         packer.set(0, 0, 0x010203);

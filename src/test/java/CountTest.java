@@ -11,7 +11,7 @@ public final class CountTest {
 
     /** Each what, and "NONE for another what", before a file and behind two. */
     private static void everyCount() {
-        PicturePacker packer = new PicturePacker(48, 2);
+        Careful packer = new Careful(48, 2);
         counts("before a file", packer, new int[] {0, 0, 0, 0, 48, 2});
         packer.fill(0, 0, 47, 0xFF0000);
         packer.fill(1, 0, 47, 255);
@@ -27,7 +27,7 @@ public final class CountTest {
         counts("black", packer, new int[] {69, 1, 2, 258, 48, 2});
     }
 
-    private static void counts(String name, PicturePacker packer, int[] due) {
+    private static void counts(String name, Careful packer, int[] due) {
         for (int what = 0; what < due.length; what++) {
             Due.is(name + ": count(" + what + ")", packer.count(what), due[what]);
         }
@@ -38,7 +38,7 @@ public final class CountTest {
 
     /** "the longest of them, 0 without one": also in a file without a run behind one with a run. */
     private static void longestOrNone() {
-        PicturePacker packer = new PicturePacker(1, 1);
+        Careful packer = new Careful(1, 1);
         packer.put();
         Due.is("0 and 0 0 0: bytes", packer.count(1), 1);
         Due.is("0 and 0 0 0: runs", packer.count(2), 1);
@@ -53,7 +53,7 @@ public final class CountTest {
     /** "the longest of them": not the first, the last or the sum of them. */
     private static void longestOfSeveral() {
         int[] bytes = {0, 9, 5, 7, 255, 0, 9, 5, 254, 0, 9, 5, 7, 253, 9, 5, 7, 252, 3};
-        PicturePacker packer = Paint.rowBytes("runs of 3, 4 and 3", 6, 1, bytes);
+        Careful packer = Paint.rowBytes("runs of 3, 4 and 3", 6, 1, bytes);
         Due.is("runs of 3, 4 and 3", new Reader(packer).text(), "0 9 5 7 255 3<5 254 4<9 253 3<4 252 3");
         Due.is("bytes beside runs of 3, 4 and 3", packer.count(1), 9);
         Due.is("how many of 3, 4 and 3", packer.count(2), 3);

@@ -14,7 +14,7 @@ public final class FillTest {
 
     /** "how many; those that are not there are left out". */
     private static void written() {
-        PicturePacker packer = new PicturePacker(7, 4);
+        Careful packer = new Careful(7, 4);
         Due.is("the whole row", packer.fill(0, 0, 6, 1), 7);
         Due.is("one pixel", packer.fill(1, 3, 3, 2), 1);
         Due.is("both ends beyond", packer.fill(2, Integer.MIN_VALUE, Integer.MAX_VALUE, 3), 7);
@@ -38,7 +38,7 @@ public final class FillTest {
         int min = Integer.MIN_VALUE;
         int max = Integer.MAX_VALUE;
         for (int width : new int[] {1, 48}) {
-            PicturePacker packer = new PicturePacker(width, 48);
+            Careful packer = new Careful(width, 48);
             Due.is("from all to all", packer.fill(47, min, max, 1), width);
             Due.is("from the first on", packer.fill(0, 0, max, 2), width);
             Due.is("up to the last", packer.fill(1, min, width - 1, 3), width);

@@ -19,7 +19,7 @@ public final class FilterTest {
 
     /** "The filter of row y in the latest file". */
     private static void written() {
-        PicturePacker packer = new PicturePacker(4, 5);
+        Careful packer = new Careful(4, 5);
         packer.fill(0, 0, 3, 0x101010);
         packer.fill(1, 0, 1, 0x101010);
         packer.fill(1, 2, 3, 0xF0F0F0);
@@ -37,7 +37,7 @@ public final class FilterTest {
 
     /** "NONE if there is none": before the first put no row has a filter, with pixels set or not. */
     private static void beforeTheFirstFile() {
-        PicturePacker packer = new PicturePacker(48, 48);
+        Careful packer = new Careful(48, 48);
         for (int paint = 0; paint < 2; paint++) {
             for (int y = -1; y <= 48; y++) {
                 Due.is("filter(" + y + ") before a file", packer.filter(y), -1);
@@ -52,7 +52,7 @@ public final class FilterTest {
     /** "NONE if there is none": rows that are not there, near and far, in the lowest and highest pictures. */
     private static void noneSuch() {
         for (int height : new int[] {1, 2, 47, 48}) {
-            PicturePacker packer = new PicturePacker(3, height);
+            Careful packer = new Careful(3, height);
             for (int file = 1; file <= 2; file++) {
                 packer.put();
                 for (int y : new int[] {Integer.MIN_VALUE, -48, -1, height, height + 1, 49, Integer.MAX_VALUE}) {
@@ -66,7 +66,7 @@ public final class FilterTest {
 
     /** All filters cost the same on black; 2 and 4 the same below an equal row; 128 counts 128. */
     private static void ties() {
-        PicturePacker packer = new PicturePacker(2, 3);
+        Careful packer = new Careful(2, 3);
         packer.put();
         Due.is("black, row 0", packer.filter(0), 0);
         Due.is("black, row 1", packer.filter(1), 0);
@@ -76,7 +76,7 @@ public final class FilterTest {
         packer.set(1, 1, 0x605040);
         packer.put();
         Due.is("below an equal row", packer.filter(1), 2);
-        PicturePacker half = new PicturePacker(1, 1);
+        Careful half = new Careful(1, 1);
         half.set(0, 0, 0x808080);
         half.put();
         Due.is("128 alone", half.filter(0), 0);

@@ -19,7 +19,7 @@ public final class NewObjectTest {
     private static void widthAndHeightInTheFile() {
         for (int i = 0; i < SIDES.length; i++) {
             for (int j = 0; j < SIDES.length; j++) {
-                PicturePacker packer = new PicturePacker(SIDES[i], SIDES[j]);
+                Careful packer = new Careful(SIDES[i], SIDES[j]);
                 packer.put();
                 String name = "file of (" + SIDES[i] + ", " + SIDES[j] + ") ";
                 Due.is(name + "width", Reader.number(packer, 16), SIDES_DUE[i]);
@@ -31,7 +31,7 @@ public final class NewObjectTest {
 
     /** "1 .. 48 each way (what is less or more is the nearest of these), all of colour 0". */
     private static void isNew(int width, int height, int widthDue, int heightDue) {
-        PicturePacker packer = new PicturePacker(width, height);
+        Careful packer = new Careful(width, height);
         String name = "new (" + width + ", " + height + ") ";
         Due.is(name + "count(4)", packer.count(4), widthDue);
         Due.is(name + "count(5)", packer.count(5), heightDue);
@@ -49,8 +49,8 @@ public final class NewObjectTest {
     }
 
     private static void objectsAreApart() {
-        PicturePacker one = new PicturePacker(2, 2);
-        PicturePacker other = new PicturePacker(2, 2);
+        Careful one = new Careful(2, 2);
+        Careful other = new Careful(2, 2);
         one.set(0, 0, 5);
         one.put();
         Due.is("other pixel(0, 0)", other.pixel(0, 0), 0);

@@ -28,6 +28,8 @@ public final class PackedTest {
         mayOverlap();
         farthest();
         longestThoughFarther();
+        longestThoughFarthest();
+        secondFile();
         atMost258();
         nearestOfTheSame();
         goesOnBehindIt();
@@ -43,7 +45,7 @@ public final class PackedTest {
 
     /** "1, 1, 0; then SIGNS; then the sign 256; 0s up to a whole byte". */
     private static void firstBits() {
-        PicturePacker packer = onePixel(1, 2, 3);
+        Careful packer = onePixel(1, 2, 3);
         Due.is("the bits of 1 2 3", new Reader(packer).bits,
             "110" + "00110000" + "00110001" + "00110010" + "00110011" + "0000000" + "000000");
     }
@@ -67,7 +69,7 @@ public final class PackedTest {
         int[] bytes = new int[pixels.length + 1];
         System.arraycopy(pixels, 0, bytes, 1, pixels.length);
         String name = zeros + " zeros";
-        PicturePacker packer = Paint.rowBytes(name, width, 1, bytes);
+        Careful packer = Paint.rowBytes(name, width, 1, bytes);
         Reader reader = new Reader(packer);
         Due.is(name + ": runs", packer.count(2), 0);
         Due.is(name + ": bits before", reader.end, bits);
@@ -86,7 +88,7 @@ public final class PackedTest {
 
     /** The same: what is left at the end may be as bytes before, and still be too short. */
     private static void fewerThanThreeLeft() {
-        PicturePacker one = new PicturePacker(3, 26);
+        Careful one = new Careful(3, 26);
         one.put();
         Due.is("1 left", new Reader(one).text(), "0 258<1 0");
         int[] bytes = {0, 9, 5, 6, 0, 255, 0, 8, 0, 0, 254, 9, 5};
@@ -95,11 +97,11 @@ public final class PackedTest {
 
     /** "(which may overlap)": runs that are longer than they point back. */
     private static void mayOverlap() {
-        PicturePacker black = new PicturePacker(48, 1);
+        Careful black = new Careful(48, 1);
         black.put();
         Due.is("back 1", new Reader(black).text(), "0 144<1");
         signs("back 2", 2, new int[] {0, 7, 0, 7, 0, 7, 0}, "0 7 5<2");
-        PicturePacker slope = new PicturePacker(8, 1);
+        Careful slope = new Careful(8, 1);
         for (int x = 0; x < 8; x++) {
             slope.set(x, 0, (x + 1) * 0x020304);
         }
@@ -129,6 +131,24 @@ public final class PackedTest {
         signs("farther but longer", 6, bytes, "0 9 5 7 11 255 4<6 0 254 0 253 4<13 252");
     }
 
+    /** The same with four nearer places, each with a run of 5, before the one with a run of 7. */
+    private static void longestThoughFarthest() {
+        int[] bytes = {0, 20, 0, 0, 9, 5, 7, 249, 0, 0, 9, 5, 7, 255, 0, 0, 9, 5, 7, 254, 0, 0, 9, 5, 7, 253,
+            0, 0, 9, 5, 7, 252, 0, 0, 9, 5, 7, 249, 0, 1};
+        signs("farthest but longest", 13, bytes,
+            "0 20 0 0 9 5 7 249 5<6 255 5<6 254 5<6 253 5<6 252 7<30 1");
+    }
+
+    /** "an earlier place": one of the same file; the runs of a second file are those of a first. */
+    private static void secondFile() {
+        int[] bytes = {0, 9, 5, 7, 255, 0, 9, 5, 7, 254, 5, 7, 254};
+        Careful packer = Paint.rowBytes("the first file", 4, 1, bytes);
+        String due = "0 9 5 7 255 4<5 254 3<3";
+        Due.is("the first file's signs", new Reader(packer).text(), due);
+        packer.put();
+        Due.is("the second file's signs", new Reader(packer).text(), due);
+    }
+
     /** "at most 258": of 257 to 261 zeros behind the first. */
     private static void atMost258() {
         int[] ends = {258, 259, 260, 261, 262, 263};
@@ -139,7 +159,7 @@ public final class PackedTest {
             String text = new Reader(Paint.rowBytes("end " + ends[i], 48, 2, bytes)).text();
             Due.is("zeros up to " + ends[i], text.substring(0, Math.min(text.length(), due[i].length())), due[i]);
         }
-        PicturePacker just = new PicturePacker(2, 37);
+        Careful just = new Careful(2, 37);
         just.put();
         Due.is("258 up to the end", new Reader(just).text(), "0 258<1");
     }
@@ -208,7 +228,7 @@ public final class PackedTest {
         Due.is("back 1", new Reader(onePixel(0, 0, 0)).lastBits(), "0000001" + "00000");
         Due.is("back 2", new Reader(Paint.rowBytes("back 2", 2, 1, new int[] {0, 7, 0, 7, 0, 7, 0})).lastBits(),
             "0000011" + "00001");
-        PicturePacker slope = new PicturePacker(2, 1);
+        Careful slope = new Careful(2, 1);
         slope.set(0, 0, 0x020304);
         slope.set(1, 0, 0x040608);
         slope.put();
@@ -271,7 +291,7 @@ public final class PackedTest {
     }
 
     /** All filters leave a lone pixel as it is, so its row is 0 and its three bytes. */
-    private static PicturePacker onePixel(int red, int green, int blue) {
+    private static Careful onePixel(int red, int green, int blue) {
         return Paint.rowBytes("one pixel", 1, 1, new int[] {0, red, green, blue});
     }
 }

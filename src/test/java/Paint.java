@@ -7,15 +7,18 @@ final class Paint {
      * A picture that has been put out, whose rows have just these bytes: filter 0 must be the
      * cheapest in each row, which is looked at here. The rest of the bytes are 0.
      */
-    static PicturePacker rowBytes(String name, int width, int height, int[] first) {
+    static Careful rowBytes(String name, int width, int height, int[] first) {
         int stride = 3 * width + 1;
         int[] bytes = new int[stride * height];
         System.arraycopy(first, 0, bytes, 0, first.length);
-        PicturePacker packer = new PicturePacker(width, height);
+        Careful packer = new Careful(width, height);
         for (int y = 0; y < height; y++) {
             for (int x = 0; x < width; x++) {
                 int place = y * stride + 1 + 3 * x;
-                packer.set(x, y, bytes[place] << 16 | bytes[place + 1] << 8 | bytes[place + 2]);
+                int colour = bytes[place] << 16 | bytes[place + 1] << 8 | bytes[place + 2];
+                if (colour != 0) {
+                    packer.set(x, y, colour);
+                }
             }
         }
         packer.put();
@@ -24,8 +27,8 @@ final class Paint {
     }
 
     /** A picture of greys, not yet put out. */
-    static PicturePacker greys(int[][] greys) {
-        PicturePacker packer = new PicturePacker(greys[0].length, greys.length);
+    static Careful greys(int[][] greys) {
+        Careful packer = new Careful(greys[0].length, greys.length);
         for (int y = 0; y < greys.length; y++) {
             for (int x = 0; x < greys[y].length; x++) {
                 packer.set(x, y, greys[y][x] * 0x010101);
@@ -35,7 +38,7 @@ final class Paint {
     }
 
     /** The rows of the latest file are these; the first byte of each is its filter. */
-    static void rowsAre(String name, PicturePacker packer, int[] due) {
+    static void rowsAre(String name, Careful packer, int[] due) {
         int[] got = Reader.rows(packer);
         Due.is(name + ": rows' bytes", got.length, due.length);
         for (int i = 0; i < due.length && i < got.length; i++) {

@@ -2,13 +2,13 @@ import java.util.Random;
 
 /** The class and the plain one side by side: each call is made on both, and compared. */
 final class Pair {
-    final PicturePacker real;
+    final Careful real;
     final PlainPacker plain;
     private final String name;
 
     Pair(String name, int width, int height) {
         this.name = name + " (" + width + ", " + height + "): ";
-        real = new PicturePacker(width, height);
+        real = new Careful(width, height);
         plain = new PlainPacker(width, height);
     }
 
@@ -64,15 +64,20 @@ final class Pair {
         Due.is(name + "count(" + what + ")", real.count(what), plain.count(what));
     }
 
-    /** Each part of each pixel from least on, span values wide, around 0 and modulo 256. */
+    /** Every pixel has a colour of its own. */
     void noise(Random random, int least, int span) {
         for (int y = 0; y < plain.height; y++) {
             for (int x = 0; x < plain.width; x++) {
-                int red = random.nextInt(span) + least & 255;
-                int green = random.nextInt(span) + least & 255;
-                int blue = random.nextInt(span) + least & 255;
-                set(x, y, red << 16 | green << 8 | blue);
+                set(x, y, colour(random, least, span));
             }
         }
+    }
+
+    /** Each part from least on, span values wide, around 0 and modulo 256. */
+    static int colour(Random random, int least, int span) {
+        int red = random.nextInt(span) + least & 255;
+        int green = random.nextInt(span) + least & 255;
+        int blue = random.nextInt(span) + least & 255;
+        return red << 16 | green << 8 | blue;
     }
 }

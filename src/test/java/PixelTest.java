@@ -23,7 +23,7 @@ public final class PixelTest {
     private static void noneSuch() {
         int[][] sides = {{1, 1}, {1, 48}, {48, 1}, {9, 6}, {48, 48}};
         for (int[] side : sides) {
-            PicturePacker packer = new PicturePacker(side[0], side[1]);
+            Careful packer = new Careful(side[0], side[1]);
             for (int y = 0; y < side[1]; y++) {
                 packer.fill(y, 0, 47, -1);
             }
@@ -49,7 +49,7 @@ public final class PixelTest {
 
     /** White is not NONE, though set was given -1. */
     private static void largestColour() {
-        PicturePacker white = new PicturePacker(1, 1);
+        Careful white = new Careful(1, 1);
         white.set(0, 0, PicturePacker.NONE);
         Due.is("white", white.pixel(0, 0), 16777215);
     }

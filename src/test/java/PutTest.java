@@ -2,9 +2,13 @@ import java.util.Random;
 
 /** Promise 5: the files are as the plain packer's, and a reader gets the picture back. */
 public final class PutTest {
+    /** So that a put and the calls that ask have room within the 512 of one object. */
+    private static final int MOST_SETS = 480;
+
     public static void main(String[] args) {
         evenPictures();
         noises();
+        largestPicture();
         runsOfEveryLength();
         farRuns();
         latestPictureCounts();
@@ -41,14 +45,35 @@ public final class PutTest {
         int[] spans = {2, 3, 9, 40, 128, 200, 256};
         for (int span : spans) {
             for (int least : new int[] {0, -span / 2, 100, 143}) {
-                Pair pair = new Pair("noise", 1 + random.nextInt(48), 1 + random.nextInt(48));
+                int width = 1 + random.nextInt(48);
+                Pair pair = new Pair("noise", width, 1 + random.nextInt(Math.min(48, MOST_SETS / width)));
                 pair.noise(random, least, span);
                 putAndRead(pair);
             }
         }
         for (int least : new int[] {0, -20, 144}) {
-            Pair pair = new Pair("largest noise", 48, 48);
-            pair.noise(random, least, 112);
+            noise(new Pair("widest noise", 48, MOST_SETS / 48), random, least);
+            noise(new Pair("highest noise", MOST_SETS / 48, 48), random, least);
+            noise(new Pair("square noise", 22, 22), random, least);
+        }
+    }
+
+    private static void noise(Pair pair, Random random, int least) {
+        pair.noise(random, least, 112);
+        putAndRead(pair);
+    }
+
+    /** The largest picture: as many pixels as the calls of one object allow, all over it. */
+    private static void largestPicture() {
+        Random random = new Random(10);
+        for (int least : new int[] {0, -20, 144}) {
+            Pair pair = new Pair("largest", 48, 48);
+            for (int y = 0; y < 48; y++) {
+                pair.fill(y, random.nextInt(48), random.nextInt(48), random.nextInt());
+            }
+            for (int i = 0; i < MOST_SETS - 48; i++) {
+                pair.set(random.nextInt(48), random.nextInt(48), Pair.colour(random, least, 112));
+            }
             putAndRead(pair);
         }
     }
@@ -69,15 +94,19 @@ public final class PutTest {
         }
     }
 
-    /** Rows around 0 mostly take filter 0, so that a row set again far below is a far run. */
+    /** Rows around 0 mostly take filter 0, so that pixels set again far below are a far run. */
     private static void farRuns() {
         Random random = new Random(6);
         for (int back = 1; back < 48; back++) {
-            Pair pair = new Pair("rows again, back " + back, 48, 48);
-            pair.noise(random, -20, 41);
-            for (int y = back; y < 48; y += 3) {
-                for (int x = random.nextInt(10); x < 48 - random.nextInt(10); x++) {
-                    pair.set(x, y, pair.plain.pixel(x, y - back));
+            Pair pair = new Pair("pixels again, back " + back, 48, 48);
+            for (int y = 0; y < 48; y++) {
+                boolean again = y >= back && (y - back) % 3 == 0;
+                int from = random.nextInt(40);
+                for (int x = again ? 0 : from; x < (again ? 48 : from + 8); x++) {
+                    int colour = again ? pair.plain.pixel(x, y - back) : Pair.colour(random, -20, 41);
+                    if (colour != 0) {
+                        pair.set(x, y, colour);
+                    }
                 }
             }
             putAndRead(pair);
@@ -98,7 +127,7 @@ public final class PutTest {
 
     private static void putAndRead(Pair pair) {
         pair.put();
-        PicturePacker real = pair.real;
+        Careful real = pair.real;
         int[] rows = Reader.rows(real);
         int width = real.count(4);
         Due.is("rows' bytes", rows.length, real.count(5) * (3 * width + 1));

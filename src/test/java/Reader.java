@@ -25,7 +25,7 @@ final class Reader {
     final int end;
     private int at = 3;
 
-    Reader(PicturePacker packer) {
+    Reader(Careful packer) {
         bits = packedBits(packer);
         int from = at;
         int sign = sign();
@@ -84,7 +84,7 @@ final class Reader {
         return value;
     }
 
-    private static String packedBits(PicturePacker packer) {
+    private static String packedBits(Careful packer) {
         StringBuilder text = new StringBuilder();
         int last = DATA_PLACE + number(packer, 33) - 4;
         for (int k = DATA_PLACE + 2; k < last; k++) {
@@ -96,7 +96,7 @@ final class Reader {
     }
 
     /** Four bytes from a place on, the highest first. */
-    static int number(PicturePacker packer, int place) {
+    static int number(Careful packer, int place) {
         int number = 0;
         for (int i = 0; i < 4; i++) {
             number = number << 8 | packer.byteAt(place + i);
@@ -105,11 +105,11 @@ final class Reader {
     }
 
     /** The number behind the packed bytes. */
-    static int sum(PicturePacker packer) {
+    static int sum(Careful packer) {
         return number(packer, DATA_PLACE + number(packer, 33) - 4);
     }
 
-    static int[] rows(PicturePacker packer) {
+    static int[] rows(Careful packer) {
         byte[] data = new byte[packer.count(0) - 57];
         for (int i = 0; i < data.length; i++) {
             data[i] = (byte) packer.byteAt(DATA_PLACE + i);

@@ -15,14 +15,14 @@ public final class RowTest {
 
     /** "x less its guess, modulo 256": what is below 0. */
     private static void moduloBelow() {
-        PicturePacker packer = Paint.greys(new int[][] {{200, 190, 189}});
+        Careful packer = Paint.greys(new int[][] {{200, 190, 189}});
         packer.put();
         Paint.rowsAre("below 0", packer, new int[] {1, 200, 200, 200, 246, 246, 246, 255, 255, 255});
     }
 
     /** "x less its guess, modulo 256": steps of 40 that go over 255 are the same steps. */
     private static void moduloAbove() {
-        PicturePacker packer = Paint.greys(new int[][] {{150, 190, 230, 14, 54, 94}});
+        Careful packer = Paint.greys(new int[][] {{150, 190, 230, 14, 54, 94}});
         packer.put();
         Paint.rowsAre("over 255", packer,
             new int[] {1, 150, 150, 150, 40, 40, 40, 40, 40, 40, 40, 40, 40, 40, 40, 40, 40, 40, 40});
@@ -30,7 +30,7 @@ public final class RowTest {
 
     /** "(0 beyond the picture)": the pixel before the first is not the last of the row above. */
     private static void beyondTheLeft() {
-        PicturePacker packer = Paint.greys(new int[][] {{50, 200}, {200, 200}});
+        Careful packer = Paint.greys(new int[][] {{50, 200}, {200, 200}});
         packer.put();
         Paint.rowsAre("beyond the left", packer,
             new int[] {0, 50, 50, 50, 200, 200, 200, 1, 200, 200, 200, 0, 0, 0});
@@ -38,7 +38,7 @@ public final class RowTest {
 
     /** "(0 beyond the picture)": c of a first pixel is not the last of the row two above. */
     private static void beyondTheCorner() {
-        PicturePacker packer = Paint.greys(new int[][] {{0, 200}, {100, 90}, {120, 120}});
+        Careful packer = Paint.greys(new int[][] {{0, 200}, {100, 90}, {120, 120}});
         packer.put();
         int[] rows = Reader.rows(packer);
         int[] due = {4, 20, 20, 20, 0, 0, 0};
@@ -49,7 +49,7 @@ public final class RowTest {
 
     /** "(0 beyond the picture)": above the first row, in the first file and in the next. */
     private static void beyondTheTop() {
-        PicturePacker packer = Paint.greys(new int[][] {{50, 30}, {255, 255}});
+        Careful packer = Paint.greys(new int[][] {{50, 30}, {255, 255}});
         for (int file = 1; file <= 2; file++) {
             packer.put();
             Paint.rowsAre("beyond the top, file " + file, packer,
@@ -59,7 +59,7 @@ public final class RowTest {
 
     /** "DIV(a + b, 2)": 201 / 2 is 100, and 355 / 2 is 177: odd sums, one of them over 255. */
     private static void halfOfTheSum() {
-        PicturePacker packer = Paint.greys(new int[][] {{201, 255}, {100, 177}});
+        Careful packer = Paint.greys(new int[][] {{201, 255}, {100, 177}});
         packer.put();
         int[] rows = Reader.rows(packer);
         int[] due = {3, 0, 0, 0, 0, 0, 0};
@@ -73,7 +73,7 @@ public final class RowTest {
      * green has a 120, b 90, c 100, where a and c are; blue has a, b and c the same.
      */
     private static void nearestAtATie() {
-        PicturePacker packer = new PicturePacker(2, 2);
+        Careful packer = new Careful(2, 2);
         packer.set(0, 0, 0x646464);
         packer.set(1, 0, 0x785A64);
         packer.set(0, 1, 0x5A7864);
@@ -116,7 +116,7 @@ public final class RowTest {
     }
 
     private static void tie(int corner, int above, int left, int last, int due, String tied) {
-        PicturePacker packer = Paint.greys(new int[][] {{corner, above}, {left, last}});
+        Careful packer = Paint.greys(new int[][] {{corner, above}, {left, last}});
         packer.put();
         Due.is("filter(1) of " + corner + " " + above + " " + left + " " + last + ", where the filters " + tied
             + " have the least sum", packer.filter(1), due);
@@ -139,7 +139,7 @@ public final class RowTest {
     }
 
     private static void secondPixel(int first, int second, int due) {
-        PicturePacker packer = Paint.greys(new int[][] {{first, second}});
+        Careful packer = Paint.greys(new int[][] {{first, second}});
         packer.put();
         Due.is("filter(0) of " + first + " " + second, packer.filter(0), due);
     }

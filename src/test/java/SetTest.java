@@ -17,7 +17,7 @@ public final class SetTest {
         int[] given = {0, 1, 255, 256, 0x010203, 0xFFFFFF, 0x1000000, 0x7F123456, -1, Integer.MIN_VALUE,
             Integer.MIN_VALUE + 7, Integer.MAX_VALUE, 0xFF808080};
         int[] kept = {0, 1, 255, 256, 0x010203, 0xFFFFFF, 0, 0x123456, 0xFFFFFF, 0, 7, 0xFFFFFF, 0x808080};
-        PicturePacker packer = new PicturePacker(3, 3);
+        Careful packer = new Careful(3, 3);
         for (int i = 0; i < given.length; i++) {
             Due.is("set(1, 2, " + given[i] + ")", packer.set(1, 2, given[i]), true);
             Due.is("pixel behind set " + given[i], packer.pixel(1, 2), kept[i]);
@@ -29,7 +29,7 @@ public final class SetTest {
         int[] colours = {0x010203, 0xFF000000, 0x7F010203, -1, Integer.MIN_VALUE, Integer.MAX_VALUE, 0xFFFE0100};
         int[][] due = {{1, 2, 3}, {0, 0, 0}, {1, 2, 3}, {255, 255, 255}, {0, 0, 0}, {255, 255, 255}, {254, 1, 0}};
         for (int i = 0; i < colours.length; i++) {
-            PicturePacker packer = new PicturePacker(1, 1);
+            Careful packer = new Careful(1, 1);
             packer.set(0, 0, colours[i]);
             packer.put();
             Paint.rowsAre("colour " + colours[i], packer, new int[] {0, due[i][0], due[i][1], due[i][2]});
@@ -48,15 +48,15 @@ public final class SetTest {
 
     /** "false if there is none such"; nothing has changed then. */
     private static void wrongPlaces() {
-        Pair pair = new Pair("wrong places", 48, 48);
         for (int out : OUTSIDE) {
+            Pair pair = new Pair("wrong places", 48, 48);
             for (int in = 0; in < 48; in++) {
                 Due.is("set(" + out + ", " + in + ")", pair.real.set(out, in, 9), false);
                 Due.is("set(" + in + ", " + out + ")", pair.real.set(in, out, 9), false);
             }
             Due.is("set(" + out + " twice)", pair.real.set(out, out, 9), false);
+            pair.pixels();
         }
-        pair.pixels();
     }
 
     /** The same in pictures of other sides, the smallest among them, with each colour at the edge. */

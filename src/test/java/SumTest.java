@@ -41,10 +41,10 @@ public final class SumTest {
         return Reader.sum(Paint.rowBytes("one at " + place, 48, 1, bytes));
     }
 
-    /** Both sums go round many times in the largest picture; here they are taken once, at the end. */
+    /** Behind the first pixel of a row its bytes are 255; here the sums go round once, at the end. */
     private static void manyTimesRound() {
-        PicturePacker packer = new PicturePacker(48, 48);
-        for (int y = 0; y < 48; y++) {
+        Careful packer = new Careful(48, 10);
+        for (int y = 0; y < 10; y++) {
             for (int x = 0; x < 48; x++) {
                 packer.set(x, y, (255 - x - y & 255) * 0x010101);
             }
@@ -57,12 +57,12 @@ public final class SumTest {
             a += rows[i];
             b += (long) rows[i] * (rows.length - i);
         }
-        Due.is("a goes round often", a > 20 * 65521, true);
+        Due.is("a goes round often", a > 5 * 65521, true);
         Due.is("the sum of many", Reader.sum(packer) & 0xFFFFFFFFL, b % 65521 * 65536 + a % 65521);
     }
 
     /** Each 255 has zeros on all sides, so that filter 0 is the cheapest; the last one is given. */
-    private static PicturePacker scattered(int count, int last) {
+    private static Careful scattered(int count, int last) {
         int[] bytes = new int[48 * 145];
         for (int i = 0; i <= count; i++) {
             int place = 290 * (i / 24) + 1 + 6 * (i % 24);
